@@ -1232,7 +1232,7 @@ public final class StrokeHall {
                 fillWalk(hall, p);
             }
             for (int g = 0; g < hall.guards; g++) {
-                fillSight(hall, g);
+                fillSight(hall, g, SECONDS);
             }
         }
 
@@ -1246,9 +1246,9 @@ public final class StrokeHall {
             }
         }
 
-        void fillSight(Hall hall, int guard) {
+        void fillSight(Hall hall, int guard, int until) {
             long around = hall.cellsAround(get(hall.guardCell, guard), get(hall.guardSees, guard));
-            for (int t = 0; t < SECONDS; t++) {
+            for (int t = 0; t < until; t++) {
                 int seen = 0;
                 for (int p = 0; p < hall.people.size; p++) {
                     if (((around >> walkCell(p, t)) & 1) == 1) {
@@ -1264,6 +1264,13 @@ public final class StrokeHall {
         }
 
         void run(Hall hall, int comers, boolean onlyTillItComesOff) {
+            int first = findFirst(hall, comers);
+            findAlarm(hall, comers, first);
+            openAll(hall, comers, first, onlyTillItComesOff);
+        }
+
+        /** What comes of the first strike and the alarm that were found. */
+        void openAll(Hall hall, int comers, int first, boolean onlyTillItComesOff) {
             waiting = comers;
             open = 0;
             hits = 0;
@@ -1271,19 +1278,30 @@ public final class StrokeHall {
                 put(opens, p, NONE);
                 put(how, p, 0);
             }
-            int first = findFirst(hall, comers);
-            findAlarm(hall, comers, first);
             if (alarm != NONE) {
                 // Behind it no watch counts, and as nobody is open there is nothing to see: nobody opens.
                 return;
             }
             for (int t = first; t < SECONDS; t++) {
                 goOn(hall, t);
-                boolean atEnd = open == 0 && (waiting & ~hall.people.passers) == 0;
-                if (atEnd || onlyTillItComesOff && hits != 0) {
+                if (onlyTillItComesOff && hits != 0) {
                     return;
                 }
+                if (open == 0) {
+                    // With nobody to be seen, nothing is until the next watch strikes.
+                    t = Math.max(t, nextStrike(hall) - 1);
+                }
             }
+        }
+
+        private int nextStrike(Hall hall) {
+            int next = SECONDS;
+            for (int p = 0; p < hall.people.size; p++) {
+                if (hasBit(waiting, p)) {
+                    next = Math.min(next, get(strikes, p));
+                }
+            }
+            return next;
         }
 
         /** When each one's watch strikes, never a passer's: the first of those who come, behind all if there is none. */
@@ -1303,10 +1321,10 @@ public final class StrokeHall {
         }
 
         /** Guards look up only ahead of the first who opens, and until then all only walk. */
-        void findAlarm(Hall hall, int comers, int first) {
+        void findAlarm(Hall hall, int comers, int until) {
             alarm = NONE;
             alarmGuard = NONE;
-            for (int t = 0; t < first && alarm == NONE; t++) {
+            for (int t = 0; t < until && alarm == NONE; t++) {
                 for (int g = 0; g < hall.guards && alarm == NONE; g++) {
                     int seen = Integer.bitCount(get(sight, g * SECONDS + t) & comers);
                     if (seen >= get(hall.guardLooks, g)) {
@@ -1344,7 +1362,7 @@ public final class StrokeHall {
                 return BY_WATCH;
             }
             int dares = get(hall.people.dares, person);
-            if (dares <= 0 || ahead == 0) {
+            if (dares <= 0 || dares > Integer.bitCount(ahead)) {
                 return 0;
             }
             int cell = get(walk, person * SECONDS + second - 1);
@@ -1639,10 +1657,15 @@ public final class StrokeHall {
         }
 
         int fewestDaring(Hall hall, int comers) {
+            int first = strokes.findFirst(hall, comers);
+            strokes.findAlarm(hall, comers, first);
+            if (strokes.alarm != NONE || Integer.bitCount(comers) < hall.enough) {
+                return NONE;
+            }
             for (int many = 0; many <= hall.people.size; many++) {
                 for (int bits = 0; bits <= hall.people.all(); bits++) {
                     boolean asked = Integer.bitCount(bits) == many && (bits & ~comers) == 0;
-                    if (asked && comesOffDaring(hall, comers, bits)) {
+                    if (asked && comesOffDaring(hall, comers, bits, first)) {
                         return bits;
                     }
                 }
@@ -1650,7 +1673,7 @@ public final class StrokeHall {
             return NONE;
         }
 
-        private boolean comesOffDaring(Hall hall, int comers, int bits) {
+        private boolean comesOffDaring(Hall hall, int comers, int bits, int first) {
             int[] dares = hall.people.dares;
             System.arraycopy(dares, 0, ownDares, 0, PEOPLE);
             for (int p = 0; p < hall.people.size; p++) {
@@ -1658,9 +1681,9 @@ public final class StrokeHall {
                     put(dares, p, 1);
                 }
             }
-            boolean off = comesOff(hall, comers);
+            strokes.openAll(hall, comers, first, true);
             System.arraycopy(ownDares, 0, dares, 0, PEOPLE);
-            return off;
+            return strokes.hits != 0;
         }
 
         int latest(Hall hall, int comers, int person) {
@@ -1677,23 +1700,26 @@ public final class StrokeHall {
 
         void findPost(Hall hall, int comers, int guard) {
             int own = get(hall.guardCell, guard);
-            int first = strokes.findFirst(hall, comers);
+            int until = strokes.findFirst(hall, comers);
             postCell = NONE;
             postAlarm = NONE;
             for (int cell = 0; cell < hall.cells(); cell++) {
                 if (hall.isFree(cell)) {
                     put(hall.guardCell, guard, cell);
-                    strokes.fillSight(hall, guard);
-                    strokes.findAlarm(hall, comers, first);
-                    boolean sooner = strokes.alarm != NONE && (postAlarm == NONE || strokes.alarm < postAlarm);
-                    if (postCell == NONE || sooner) {
+                    strokes.fillSight(hall, guard, until);
+                    strokes.findAlarm(hall, comers, until);
+                    if (strokes.alarm != NONE) {
+                        // Only an alarm that is sooner is looked for in the cells behind it.
                         postCell = cell;
                         postAlarm = strokes.alarm;
+                        until = postAlarm;
+                    } else if (postCell == NONE) {
+                        postCell = cell;
                     }
                 }
             }
             put(hall.guardCell, guard, own);
-            strokes.fillSight(hall, guard);
+            strokes.fillSight(hall, guard, SECONDS);
         }
     }
 

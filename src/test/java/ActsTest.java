@@ -109,6 +109,51 @@ public final class ActsTest {
         }
         check.due("no more than 20", hall.undo(), false);
         check.due("watch of the third act", hall.person(0, 1), 2);
+        mixedTwenty(check);
+        cellAgain(check);
+    }
+
+    /** Acts of all kinds and of many people, more than twenty: each is undone as what it was. */
+    private static void mixedTwenty(Check check) {
+        StrokeHall hall = Check.told(TEXT);
+        String[] states = new String[27];
+        for (int k = 0; k < 26; k++) {
+            states[k] = state(hall);
+            switch (k % 4) {
+                case 0: hall.set(k % 3, 0, k); break;
+                case 1: hall.close(k / 4 % 2, !isClosed(hall, k / 4 % 2)); break;
+                case 2: hall.set((k + 1) % 3, 2, k % 11); break;
+                default: hall.set((k + 2) % 3, 1, k % 10); break;
+            }
+        }
+        for (int k = 25; k >= 6; k--) {
+            check.due("undo of act " + k, hall.undo(), true);
+            check.due(state(hall) + " is " + states[k], state(hall).equals(states[k]), true);
+        }
+        check.due("the first six stay", hall.undo(), false);
+        check.due("state behind the first six", state(hall).equals(states[6]), true);
+    }
+
+    private static boolean isClosed(StrokeHall hall, int door) {
+        return hall.door(door, 1) == 1;
+    }
+
+    private static String state(StrokeHall hall) {
+        StringBuilder text = new StringBuilder();
+        int many = hall.image();
+        for (int k = 0; k < many; k++) {
+            text.append(hall.octet(k)).append(' ');
+        }
+        return text.toString();
+    }
+
+    private static void cellAgain(Check check) {
+        StrokeHall hall = Check.told(TEXT);
+        check.due("where at first", hall.where(0, 3), 4);
+        hall.set(0, 2, 6);
+        check.due("where then", hall.where(0, 3), 6);
+        hall.undo();
+        check.due("where again", hall.where(0, 3), 4);
     }
 
     private static void comes(Check check) {

@@ -117,6 +117,7 @@ public final class ImageTest {
         check.due("on() again", hall.on(), true);
         image(check, hall, 67, 3, 4, 0, 0, 10, 0, 0);
         check.due("fault(0) stays", hall.fault(0), 0);
+        check.due("where behind on()", hall.where(1, 0), 10);
     }
 
     private static void refuses(Check check) {

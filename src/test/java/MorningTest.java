@@ -78,6 +78,12 @@ public final class MorningTest {
         hall = Check.told("hall 9 2;person a at 0 0 slow 0 dares 0 comes 4 walks x;"
             + "person b at 5 0 slow 60 dares 1 comes 4 walks w;stroke 3;open 1;");
         row(check, hall, 1, 63, NONE, 1, NONE);
+        // Who opens stands where he was in the second ahead: a in 2 0, near c, and not near b.
+        hall = Check.told("hall 9 2;person a at 0 0 slow 0 dares 0 comes 4 walks e;"
+            + "person b at 4 0 slow 60 dares 1 comes 4 walks x;person c at 1 0 slow 60 dares 1 comes 4 walks x;"
+            + "stroke 3;open 9;");
+        row(check, hall, 1, 63, NONE, 1, NONE);
+        row(check, hall, 2, 4, NONE, 2, NONE);
         // Who could open by both in a second opens by his watch.
         hall = Check.told("hall 9 2;person a at 0 0 slow 0 dares 0 comes 4 walks x;"
             + "person b at 1 0 slow 1 dares 1 comes 4 walks x;stroke 3;open 5;");

@@ -29,6 +29,8 @@ public final class ToldTest {
         check.due("hall(12)", hall.hall(12), 1);
         hall.come(2);
         check.due("hall(11)", hall.hall(11), 2);
+        check.due("walls in the corners", Check.told("hall 2 2;wall 0 0;wall 1 1;").hall(2), 2);
+        check.due("walls all over", Check.told("hall 2 2;wall 0 0;wall 1 1;wall 1 0;wall 0 1;").hall(2), 4);
     }
 
     private static void letters(Check check) {

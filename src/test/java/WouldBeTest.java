@@ -57,6 +57,17 @@ public final class WouldBeTest {
         check.due("the watch stays", hall.person(0, 1), 60);
         check.due("stroke 1: nothing is ahead of it", Check.told(text + "stroke 1;").spark(0), 0);
         check.due("a guard", Check.told(text + "stroke 4;guard g at 0 0 sees 1 looks 2;").spark(0), 0);
+        // b opens in 40, one beside a who opened in 39, as told: 60 ahead of 99.
+        StrokeHall by = Check.told("hall 9 2;" + person('a', "4 0", "0", 0, 4, "")
+            + "person b at 0 0 slow 60 dares 1 comes 4 walks xxxxxxxxxxxe;"
+            + "open 1;stroke 99;");
+        check.due("b is beside him in 39", by.where(1, 39), 3);
+        check.due("b is beside him still in 40", by.where(1, 40), 3);
+        check.due("60 ahead", by.spark(0), 2);
+        StrokeHall soon = Check.told("hall 9 2;" + person('a', "4 0", "0", 0, 4, "")
+            + "person b at 0 0 slow 60 dares 1 comes 4 walks xxxxxxxxxxxe;"
+            + "open 1;stroke 95;");
+        check.due("60 ahead: b is not yet there", soon.spark(0), 1);
         check.due("stroke 62: he in 2, d in 61", Check.told(text + "stroke 62;").spark(4), 2);
     }
 
@@ -86,6 +97,14 @@ public final class WouldBeTest {
         check.due("nobody near", hall.daring(1), NONE);
         check.due("daring(-1)", hall.daring(-1), NONE);
         check.due("daring(2)", hall.daring(2), NONE);
+        // Fewest goes ahead of least bits: d alone (and e behind him) is 8, b and c are 6.
+        hall = Check.told("hall 9 2;" + person('a', "0 0", "0", 0, 4, "") + person('b', "0 1", "60", 0, 4, "")
+            + person('c', "0 1", "50", 0, 4, "") + person('d', "1 0", "40", 0, 4, "")
+            + person('e', "2 0", "30", 1, 4, "") + "stroke 5;open 4;enough 3;");
+        check.due("fewest", hall.daring(0), 1);
+        check.due("fewest: bits", hall.daring(1), 8);
+        hall.come(7);
+        check.due("without d", hall.daring(1), 6);
         // One who dares at 2 must dare at 1: a passer may.
         hall = Check.told("hall 9 2;" + person('a', "0 0", "0", 0, 4, "") + person('b', "8 0", "60", 2, 4, " passer")
             + person('c', "0 1", "60", 2, 4, " passer") + "stroke 5;open 9;enough 2;");
