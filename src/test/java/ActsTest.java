@@ -115,10 +115,20 @@ public final class ActsTest {
 
     /** Acts of all kinds and of many people, more than twenty: each is undone as what it was. */
     private static void mixedTwenty(Check check) {
+        StrokeHall hall = withActs(26);
+        for (int k = 25; k >= 6; k--) {
+            check.due("undo of act " + k, hall.undo(), true);
+            String is = state(hall);
+            String due = state(withActs(k));
+            check.due(is + " is " + due, is.equals(due), true);
+        }
+        check.due("the first six stay", hall.undo(), false);
+        check.due("state behind the first six", state(hall).equals(state(withActs(6))), true);
+    }
+
+    private static StrokeHall withActs(int many) {
         StrokeHall hall = Check.told(TEXT);
-        String[] states = new String[27];
-        for (int k = 0; k < 26; k++) {
-            states[k] = state(hall);
+        for (int k = 0; k < many; k++) {
             switch (k % 4) {
                 case 0: hall.set(k % 3, 0, k); break;
                 case 1: hall.close(k / 4 % 2, !isClosed(hall, k / 4 % 2)); break;
@@ -126,12 +136,7 @@ public final class ActsTest {
                 default: hall.set((k + 2) % 3, 1, k % 10); break;
             }
         }
-        for (int k = 25; k >= 6; k--) {
-            check.due("undo of act " + k, hall.undo(), true);
-            check.due(state(hall) + " is " + states[k], state(hall).equals(states[k]), true);
-        }
-        check.due("the first six stay", hall.undo(), false);
-        check.due("state behind the first six", state(hall).equals(states[6]), true);
+        return hall;
     }
 
     private static boolean isClosed(StrokeHall hall, int door) {
