@@ -302,4 +302,108 @@ final class Model {
         }
         return people.get(p).dares > 0 && seen >= people.get(p).dares;
     }
+
+    int whole(Day d, int what) {
+        int peak = 0;
+        int first = NONE;
+        for (int t = 0; t <= 200; t++) {
+            peak = d.many(t, OPEN) > d.many(peak, OPEN) ? t : peak;
+            first = first == NONE && d.many(t, OPEN) >= enough ? t : first;
+        }
+        int passers = 0;
+        int lastOut = NONE;
+        for (int p = 0; p < people.size(); p++) {
+            passers += people.get(p).passer && d.opens[p] != NONE ? 1 : 0;
+            lastOut = Math.max(lastOut, d.outs[p]);
+        }
+        int[] whole = {d.alarm, d.alarmGuard, peak, d.many(peak, OPEN), d.comesOff(this) ? 1 : 0, first, passers, lastOut,
+            d.openAhead(stroke)};
+        return what >= 0 && what < whole.length ? whole[what] : NONE;
+    }
+
+    int door(Day d, int door, int what) {
+        int many = 0;
+        int last = NONE;
+        for (int p = 0; p < 9; p++) {
+            many += d.outDoor[p] == door ? 1 : 0;
+            last = d.outDoor[p] == door ? Math.max(last, d.outs[p]) : last;
+        }
+        int[] all = {doors.get(door), closed.get(door) ? 1 : 0, many, last};
+        return what >= 0 && what < all.length ? all[what] : NONE;
+    }
+
+    int odds() {
+        long sum = 0;
+        for (int bits = 0; bits < 1 << people.size(); bits++) {
+            long ways = 1;
+            for (int p = 0; p < people.size(); p++) {
+                ways *= (bits >> p & 1) == 1 ? people.get(p).comes : 4 - people.get(p).comes;
+            }
+            sum += ways > 0 && day(bits).comesOff(this) ? ways : 0;
+        }
+        return (int) (sum * 1000 / (1L << 2 * people.size()));
+    }
+
+    int spark(int comers, int p) {
+        int slow = people.get(p).slow;
+        people.get(p).slow = -60;
+        int many = day(comers).openAhead(stroke);
+        people.get(p).slow = slow;
+        return many;
+    }
+
+    int late(int comers, int p) {
+        int own = people.get(p).slow;
+        int latest = NONE;
+        for (int slow = -60; slow <= 60; slow++) {
+            people.get(p).slow = slow;
+            Day would = day(comers);
+            for (int t = 0; t <= 200; t++) {
+                if (would.doing[t][p] == OPEN && would.many(t, OPEN) >= enough) {
+                    latest = slow + 60;
+                }
+            }
+        }
+        people.get(p).slow = own;
+        return latest;
+    }
+
+    /** The bits of those who must dare. */
+    int daring(int comers) {
+        int best = NONE;
+        for (int bits = 0; bits < 1 << people.size(); bits++) {
+            boolean fewer = best == NONE || Integer.bitCount(bits) < Integer.bitCount(best);
+            if ((bits & ~comers) != 0 || !fewer) {
+                continue;
+            }
+            int[] own = new int[9];
+            for (int p = 0; p < people.size(); p++) {
+                own[p] = people.get(p).dares;
+                people.get(p).dares = (bits >> p & 1) == 1 ? 1 : own[p];
+            }
+            best = day(comers).comesOff(this) ? bits : best;
+            for (int p = 0; p < people.size(); p++) {
+                people.get(p).dares = own[p];
+            }
+        }
+        return best;
+    }
+
+    /** The cell of a guard's best post, and the alarm there. */
+    int[] post(int comers, int g) {
+        int own = guards.get(g).cell;
+        int best = NONE;
+        int soonest = 1000;
+        for (int cell = 0; cell < wide * high; cell++) {
+            if (!wall[cell]) {
+                guards.get(g).cell = cell;
+                int alarm = day(comers).alarm;
+                int rank = alarm == NONE ? 999 : alarm;
+                best = rank < soonest ? cell : best;
+                soonest = Math.min(soonest, rank);
+            }
+        }
+        guards.get(g).cell = own;
+        return new int[] {best, soonest == 999 ? NONE : soonest};
+    }
 }

@@ -153,59 +153,39 @@ public final class ModelTest {
             }
         }
         for (int d = 0; d < model.doors.size(); d++) {
-            int many = 0;
-            int last = Model.NONE;
-            for (int p = 0; p < 9; p++) {
-                many += day.outDoor[p] == d ? 1 : 0;
-                last = day.outDoor[p] == d ? Math.max(last, day.outs[p]) : last;
+            for (int what = 0; what < 4; what++) {
+                due("door(" + d + ", " + what + ")", hall.door(d, what), model.door(day, d, what));
             }
-            due("door(" + d + ", 1)", hall.door(d, 1), model.closed.get(d) ? 1 : 0);
-            due("door(" + d + ", 2)", hall.door(d, 2), many);
-            due("door(" + d + ", 3)", hall.door(d, 3), last);
         }
     }
 
     private void counts() {
-        int peak = 0;
-        int first = Model.NONE;
-        for (int t = 0; t <= 200; t++) {
-            peak = day.many(t, Model.OPEN) > day.many(peak, Model.OPEN) ? t : peak;
-            first = first == Model.NONE && day.many(t, Model.OPEN) >= model.enough ? t : first;
-        }
         for (int k = 0; k < 80; k++) {
             int t = random.nextInt(201);
             int[] kinds = {Model.OPEN, Model.WAITS, Model.GOES, Model.OUT};
             int what = random.nextInt(4);
             due("count(" + t + ", " + what + ")", hall.count(t, what), day.many(t, kinds[what]));
         }
-        int passers = 0;
-        int lastOut = Model.NONE;
-        for (int p = 0; p < model.people.size(); p++) {
-            passers += model.people.get(p).passer && day.opens[p] != Model.NONE ? 1 : 0;
-            lastOut = Math.max(lastOut, day.outs[p]);
-        }
-        int[] whole = {day.alarm, day.alarmGuard, peak, day.many(peak, Model.OPEN), day.comesOff(model) ? 1 : 0, first,
-            passers, lastOut, day.openAhead(model.stroke), Model.NONE};
-        for (int what = 0; what < whole.length; what++) {
-            due("whole(" + what + ")", hall.whole(what), whole[what]);
+        for (int what = 0; what < 10; what++) {
+            due("whole(" + what + ")", hall.whole(what), model.whole(day, what));
         }
     }
 
     private void wouldBe() {
         if (random.nextInt(5) == 0) {
-            due("odds()", hall.odds(), odds());
+            due("odds()", hall.odds(), model.odds());
         }
         for (int p = 0; p < model.people.size(); p++) {
             boolean fine = isThere(p) && !model.people.get(p).passer;
             if (random.nextInt(3) == 0) {
-                due("spark(" + p + ")", hall.spark(p), fine ? spark(p) : Model.NONE);
+                due("spark(" + p + ")", hall.spark(p), fine ? model.spark(comers, p) : Model.NONE);
             }
             if (random.nextInt(6) == 0) {
-                due("late(" + p + ")", hall.late(p), fine ? late(p) : Model.NONE);
+                due("late(" + p + ")", hall.late(p), fine ? model.late(comers, p) : Model.NONE);
             }
         }
         if (random.nextInt(4) == 0) {
-            int bits = daring();
+            int bits = model.daring(comers);
             due("daring(1)", hall.daring(1), bits);
             due("daring(0)", hall.daring(0), bits == Model.NONE ? bits : Integer.bitCount(bits));
         }
@@ -217,78 +197,10 @@ public final class ModelTest {
         due("whole(8)", hall.whole(8), day.openAhead(model.stroke));
     }
 
-    private int odds() {
-        long sum = 0;
-        for (int bits = 0; bits < 1 << model.people.size(); bits++) {
-            long ways = 1;
-            for (int p = 0; p < model.people.size(); p++) {
-                ways *= (bits >> p & 1) == 1 ? model.people.get(p).comes : 4 - model.people.get(p).comes;
-            }
-            sum += ways > 0 && model.day(bits).comesOff(model) ? ways : 0;
-        }
-        return (int) (sum * 1000 / (1L << 2 * model.people.size()));
-    }
-
-    private int spark(int p) {
-        int slow = model.people.get(p).slow;
-        model.people.get(p).slow = -60;
-        int many = model.day(comers).openAhead(model.stroke);
-        model.people.get(p).slow = slow;
-        return many;
-    }
-
-    private int late(int p) {
-        int own = model.people.get(p).slow;
-        int latest = Model.NONE;
-        for (int slow = -60; slow <= 60; slow++) {
-            model.people.get(p).slow = slow;
-            Model.Day would = model.day(comers);
-            for (int t = 0; t <= 200; t++) {
-                if (would.doing[t][p] == Model.OPEN && would.many(t, Model.OPEN) >= model.enough) {
-                    latest = slow + 60;
-                }
-            }
-        }
-        model.people.get(p).slow = own;
-        return latest;
-    }
-
-    private int daring() {
-        int best = Model.NONE;
-        for (int bits = 0; bits < 1 << model.people.size(); bits++) {
-            boolean fewer = best == Model.NONE || Integer.bitCount(bits) < Integer.bitCount(best);
-            if ((bits & ~comers) != 0 || !fewer) {
-                continue;
-            }
-            int[] own = new int[9];
-            for (int p = 0; p < model.people.size(); p++) {
-                own[p] = model.people.get(p).dares;
-                model.people.get(p).dares = (bits >> p & 1) == 1 ? 1 : own[p];
-            }
-            best = model.day(comers).comesOff(model) ? bits : best;
-            for (int p = 0; p < model.people.size(); p++) {
-                model.people.get(p).dares = own[p];
-            }
-        }
-        return best;
-    }
-
     private void post(int g) {
-        int own = model.guards.get(g).cell;
-        int best = Model.NONE;
-        int soonest = 1000;
-        for (int cell = 0; cell < model.wide * model.high; cell++) {
-            if (!model.wall[cell]) {
-                model.guards.get(g).cell = cell;
-                int alarm = model.day(comers).alarm;
-                int rank = alarm == Model.NONE ? 999 : alarm;
-                best = rank < soonest ? cell : best;
-                soonest = Math.min(soonest, rank);
-            }
-        }
-        model.guards.get(g).cell = own;
-        due("post(" + g + ", 0)", hall.post(g, 0), best);
-        due("post(" + g + ", 1)", hall.post(g, 1), soonest == 999 ? Model.NONE : soonest);
+        int[] best = model.post(comers, g);
+        due("post(" + g + ", 0)", hall.post(g, 0), best[0]);
+        due("post(" + g + ", 1)", hall.post(g, 1), best[1]);
     }
 
     private void question() {
